@@ -1155,7 +1155,6 @@ public final class PromiseTest {
         }
         due("worst()", x.worst(), 2);
         greatestSheet(x);
-        due("digest()", x.digest(), told(x));
     }
 
     private static void greatestSheet(LessonWays x) {
